@@ -323,7 +323,7 @@ public final class ValueAlgebra {
             return cells[place];
         }
 
-        Value cellAt(int row, int column) {
+        Value cellIn(int row, int column) {
             return cellAt(row * columns + column);
         }
 
@@ -707,10 +707,7 @@ public final class ValueAlgebra {
         }
 
         double amount(int k) {
-            return amountOf(sound(k));
-        }
-
-        private double amountOf(Value found) {
+            Value found = sound(k);
             switch (found.kind) {
                 case Value.NUMBER:
                     return found.amount;
@@ -1893,7 +1890,7 @@ public final class ValueAlgebra {
             for (int place = 0; place < cells.length; place++) {
                 int down = turned ? place % high : place / wide;
                 int aside = turned ? place / high : place % wide;
-                cells[place] = table.cellAt(row + down, column + aside);
+                cells[place] = table.cellIn(row + down, column + aside);
             }
             return Value.ofCells(turned ? wide : high, turned ? high : wide, cells);
         }
@@ -1915,7 +1912,7 @@ public final class ValueAlgebra {
                 return Value.ofError(Value.REFERENCE_ERROR);
             }
             if (row > 0 && column > 0) {
-                return table.cellAt((int) row - 1, (int) column - 1);
+                return table.cellIn((int) row - 1, (int) column - 1);
             }
             return section(table, row > 0 ? (int) row - 1 : 0, column > 0 ? (int) column - 1 : 0,
                     row > 0 ? 1 : table.rows, column > 0 ? 1 : table.columns, false);
@@ -1952,7 +1949,7 @@ public final class ValueAlgebra {
             Value line = section(table, 0, 0, table.rows, 1, false);
             int place = placeOf(looked, line, manner, arguments.likeness);
             return place == NONE
-                    ? Value.ofError(Value.NONE_ERROR) : table.cellAt(place, (int) column - 1);
+                    ? Value.ofError(Value.NONE_ERROR) : table.cellIn(place, (int) column - 1);
         }
 
         private static int placeOf(Value looked, Value line, long manner, Likeness likeness) {

@@ -5,9 +5,10 @@ import java.util.Arrays;
  * through the public face alone, and checks that count what is wrong.
  *
  * Nothing is BLANK, a number a Number, a text a String, a truth a Boolean, an error an Err,
- * and an array an Object[][] of its rows.
+ * and an array an Object[][] of its rows. The tests extend this class, only to name what is
+ * in it without its name: a class without a package can't be imported.
  */
-final class Bench {
+abstract class Bench {
     enum Err { NULL, DIVISION, VALUE, REFERENCE, NAME, NUMBER, NONE, RING }
 
     enum Blank { BLANK }
@@ -24,9 +25,6 @@ final class Bench {
     private static final String BENEATH = "beneath";
     private static int checks = 0;
     private static int wrong = 0;
-
-    private Bench() {
-    }
 
     static Object row(Object... cells) {
         return new Object[][] {cells};
@@ -50,6 +48,32 @@ final class Bench {
 
     static String times(String letters, int many) {
         return letters.repeat(many);
+    }
+
+    /** A function of each value alone that is no numeral and of one that is an error. */
+    static void wantsNumber(int number, int place, Object... told) {
+        with(number, place, "abc", Err.VALUE, told);
+        with(number, place, "", Err.VALUE, told);
+        wantsSingle(number, place, told);
+    }
+
+    /** An error in the place is the answer, and an array of more cells the error VALUE. */
+    static void wantsSingle(int number, int place, Object... told) {
+        with(number, place, Err.RING, Err.RING, told);
+        with(number, place, row(1, 2), Err.VALUE, told);
+        with(number, place, row(Err.NAME), Err.NAME, told);
+    }
+
+    static void wantsWhole(int number, int place, Object... told) {
+        wantsNumber(number, place, told);
+        with(number, place, 9007199254740992.0, Err.NUMBER, told);
+        with(number, place, -9007199254740992.0, Err.NUMBER, told);
+    }
+
+    private static void with(int number, int place, Object changed, Object want, Object... told) {
+        Object[] all = told.clone();
+        all[place] = changed;
+        function(number, want, all);
     }
 
     static void typeAll(ValueAlgebra x, String letters) {
