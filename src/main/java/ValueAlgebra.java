@@ -1304,20 +1304,18 @@ public final class ValueAlgebra {
         private static double powerOfSize(double base, int exponent) {
             double result = 1;
             double square = base;
-            int rest = exponent;
-            while (rest > 0) {
+            for (int rest = exponent; rest > 0; rest /= 2) {
                 if (rest % 2 == 1) {
                     result *= square;
-                    if (!Value.isFinite(result)) {
-                        return result;
-                    }
                 }
-                rest /= 2;
-                if (rest > 0) {
+                if (!Value.isFinite(result)) {
+                    return result;
+                }
+                if (rest > 1) {
                     square *= square;
-                    if (!Value.isFinite(square)) {
-                        return square;
-                    }
+                }
+                if (!Value.isFinite(square)) {
+                    return square;
                 }
             }
             return result;
@@ -2007,9 +2005,9 @@ public final class ValueAlgebra {
         private static final int FIRST_YEAR = 1900;
         private static final int MONTHS = 12;
         private static final int DAY_SECONDS = 86400;
-        /** The last of December 9999, and its month, of which 0 is January 1900. */
+        /** The last of December 9999. */
         private static final int LAST_DAY = 2958465;
-        private static final int LAST_MONTH = 97199;
+        /** Months count from January 1900, which is 0. */
         private static final int FEBRUARY = 1;
         /** How many leap years there are up to 1900, which is none. */
         private static final int LEAPS_BEFORE = 460;
@@ -2078,7 +2076,7 @@ public final class ValueAlgebra {
         private static int monthOf(int day) {
             int month = 0;
             for (int step = 65536; step > 0; step /= 2) {
-                if (month + step <= LAST_MONTH && firstOf(month + step) <= day) {
+                if (firstOf(month + step) <= day) {
                     month += step;
                 }
             }

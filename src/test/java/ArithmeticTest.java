@@ -162,6 +162,7 @@ public final class ArithmeticTest extends Bench {
         function(26, Err.NUMBER, 9007199254740991.0, 2);
         function(26, Err.NUMBER, 9007199254740991.0, 9007199254740990.0);
         function(26, Err.NUMBER, 94906267, 94906266);
+        function(26, Err.NUMBER, 3, 3002399751580331.0);
         function(26, 94906265.0 * 94906264.0, 94906265, 94906264);
         function(26, Err.NUMBER, 4503599627370496.0, 4, 3);
         function(26, 4503599627370496.0, 4503599627370496.0, 1024);

@@ -252,6 +252,9 @@ public final class OperatorsTest extends Bench {
         for (int k = 1; k < 16; k++) {
             x.number(k);
         }
+        for (int number : new int[] {-1, 14, 15, Integer.MAX_VALUE, Integer.MIN_VALUE}) {
+            throwing("operate(" + number + ") of two", Thrown.ARGUMENT, x, () -> x.operate(number));
+        }
         x.operate(1);
         check("operate(1) on a full stack", x.size(), 16);
         x.operate(5);

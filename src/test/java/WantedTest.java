@@ -95,6 +95,8 @@ public final class WantedTest extends Bench {
         written(0.0000000006, "0.000000001");
         written(0.0000000004, "0");
         written(-0.0000000004, "-0");
+        written(0.00000000055, "0.000000001");
+        written(0.00000000145, "0.000000001");
         written(-4.9E-324, "-0");
         written(9.9999999999, "10");
         written(999999.999, "999999.999");

@@ -118,6 +118,7 @@ public final class WordingTest extends Bench {
         function(62, "The Quick", "the qUICK");
         function(62, "A1B2-C'D", "a1b2-c'd");
         function(62, " X", " x");
+        function(62, "Aaa Zzz `A [Z", "aAa zZz `a [z");
         function(62, "True", true);
         for (int number = 60; number <= 62; number++) {
             function(number, "", BLANK);
