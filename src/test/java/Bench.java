@@ -18,13 +18,25 @@ abstract class Bench {
     /** Which exception a call throws. */
     enum Thrown { NOTHING, ARGUMENT, STATE, BOUNDS, OTHER }
 
-    interface Step {
-        void run();
+    /** Makes an object in the same state each time. */
+    interface Maker {
+        Counted make();
     }
 
+    interface Step {
+        void on(Counted x);
+    }
+
+    private static final int MOST_VALUES = 16;
     private static final String BENEATH = "beneath";
+    private static String sentence = "";
     private static int checks = 0;
     private static int wrong = 0;
+
+    /** The words of the document that the checks from here on are of. */
+    static void sentence(String words) {
+        sentence = words;
+    }
 
     static Object row(Object... cells) {
         return new Object[][] {cells};
@@ -76,13 +88,39 @@ abstract class Bench {
         function(number, want, all);
     }
 
-    static void typeAll(ValueAlgebra x, String letters) {
-        for (int k = 0; k < letters.length(); k++) {
-            x.type(letters.charAt(k));
+    static void typeAll(Counted x, String letters) {
+        for (int k = 0; k < letters.length(); k += 4) {
+            int word = 0;
+            for (int j = k; j < k + 4 && j < letters.length(); j++) {
+                word = word << 8 | letters.charAt(j);
+            }
+            x.type(word);
         }
     }
 
-    static void push(ValueAlgebra x, Object told) {
+    /** An object with these values, the last one the uppermost. */
+    static Counted with(Object... told) {
+        Counted x = new Counted();
+        pushAll(x, told);
+        return x;
+    }
+
+    /** Long texts that stand there already are put there again, for the fewer calls. */
+    static void pushAll(Counted x, Object... told) {
+        for (int k = 0; k < told.length; k++) {
+            int before = 0;
+            while (told[before] != told[k]) {
+                before++;
+            }
+            if (before < k && told[k] instanceof String s && s.length() > 8) {
+                x.again(k - 1 - before);
+            } else {
+                push(x, told[k]);
+            }
+        }
+    }
+
+    static void push(Counted x, Object told) {
         if (told == BLANK) {
             x.plain(0, 0);
         } else if (told instanceof Number n) {
@@ -106,7 +144,7 @@ abstract class Bench {
         }
     }
 
-    static Object read(ValueAlgebra x, int depth) {
+    static Object read(Counted x, int depth) {
         int rows = x.about(depth, 1);
         int columns = x.about(depth, 2);
         if (x.about(depth, 0) != 5) {
@@ -121,7 +159,7 @@ abstract class Bench {
         return cells;
     }
 
-    private static Object readCell(ValueAlgebra x, int depth, int r, int c) {
+    private static Object readCell(Counted x, int depth, int r, int c) {
         int code = x.cell(depth, r, c, 1);
         double amount = x.value(depth, r, c);
         int first = x.letter(depth, r, c, 0);
@@ -140,7 +178,7 @@ abstract class Bench {
         }
     }
 
-    private static String readLetters(ValueAlgebra x, int depth, int r, int c, int length) {
+    private static String readLetters(Counted x, int depth, int r, int c, int length) {
         StringBuilder read = new StringBuilder();
         for (int k = 0; k < length; k++) {
             read.append((char) x.letter(depth, r, c, k));
@@ -186,34 +224,33 @@ abstract class Bench {
         checks++;
         if (!same(got, want)) {
             wrong++;
-            System.out.println(call + " answered " + show(got) + ", due is " + show(want));
+            String of = sentence.isEmpty() ? "" : " [" + sentence + "]";
+            System.out.println(call + " answered " + show(got) + ", due is " + show(want) + of);
         }
     }
 
     /** An operator of the values told, over another value that stays as it is. */
     static void operator(int number, Object want, Object... told) {
-        ValueAlgebra x = ready(told);
+        Counted x = ready(told);
         x.operate(number);
         checkAnswer("operator " + number, x, want, told);
     }
 
     /** A function of the values told, over another value that stays as it is. */
     static void function(int number, Object want, Object... told) {
-        ValueAlgebra x = ready(told);
+        Counted x = ready(told);
         x.call(number, told.length);
         checkAnswer("function " + number, x, want, told);
     }
 
-    private static ValueAlgebra ready(Object... told) {
-        ValueAlgebra x = new ValueAlgebra();
+    private static Counted ready(Object... told) {
+        Counted x = new Counted();
         push(x, BENEATH);
-        for (Object one : told) {
-            push(x, one);
-        }
+        pushAll(x, told);
         return x;
     }
 
-    private static void checkAnswer(String call, ValueAlgebra x, Object want, Object... told) {
+    private static void checkAnswer(String call, Counted x, Object want, Object... told) {
         StringBuilder shown = new StringBuilder(call);
         for (Object one : told) {
             shown.append(" ").append(show(one));
@@ -225,9 +262,9 @@ abstract class Bench {
         }
     }
 
-    static Thrown thrownBy(Step step) {
+    static Thrown thrownBy(Counted x, Step step) {
         try {
-            step.run();
+            step.on(x);
             return Thrown.NOTHING;
         } catch (RuntimeException e) {
             if (e.getClass() == IllegalArgumentException.class) {
@@ -240,19 +277,37 @@ abstract class Bench {
         }
     }
 
-    /** A call that throws, and changes nothing. */
-    static void throwing(String call, Thrown want, ValueAlgebra x, Step step) {
-        String before = showStack(x);
-        check(call + " throws", thrownBy(step), want);
-        check(call + " leaves", showStack(x), before);
+    /**
+     * A call that throws, and changes nothing: each value and the text under way are the same
+     * as on an object that the call was not made on. Each is read on an object of its own, as
+     * one object has not calls enough for all of them.
+     */
+    static void refused(String call, Thrown want, Maker maker, Step step) {
+        Counted x = maker.make();
+        check(call + " throws", thrownBy(x, step), want);
+        int size = maker.make().size();
+        check(call + " leaves so many values", x.size(), size);
+        for (int depth = 0; depth < size; depth++) {
+            check(call + " leaves at depth " + depth, readBehind(maker, step, depth), read(maker.make(), depth));
+        }
+        Counted y = maker.make();
+        thrownBy(y, step);
+        check(call + " leaves under way", underWay(y), underWay(maker.make()));
     }
 
-    static String showStack(ValueAlgebra x) {
-        StringBuilder shown = new StringBuilder();
-        for (int depth = 0; depth < x.size(); depth++) {
-            shown.append(show(read(x, depth))).append(" | ");
+    private static Object readBehind(Maker maker, Step step, int depth) {
+        Counted x = maker.make();
+        thrownBy(x, step);
+        return x.size() > depth ? read(x, depth) : "no value";
+    }
+
+    /** The text under way, of an object that is not used any more. */
+    private static Object underWay(Counted x) {
+        if (x.size() == MOST_VALUES) {
+            x.drop();
         }
-        return shown.toString();
+        x.text();
+        return read(x, 0);
     }
 
     /** To be the last call of a test. */

@@ -70,8 +70,8 @@ public final class FaceTest extends Bench {
 
     private static void classesInside() {
         for (Class<?> inside : ValueAlgebra.class.getDeclaredClasses()) {
-            check(inside + " is private and static",
-                    Modifier.isPrivate(inside.getModifiers()) && Modifier.isStatic(inside.getModifiers()), true);
+            check(inside + " is public or protected",
+                    Modifier.isPublic(inside.getModifiers()) || Modifier.isProtected(inside.getModifiers()), false);
             for (Method method : inside.getDeclaredMethods()) {
                 check(method + " has a public one's name", isOfFace(method.getName()), false);
             }

@@ -19,7 +19,8 @@ public final class OperatorsTest extends Bench {
         orderOfKinds();
         errorsOfTwo();
         arraysOfCells();
-        wrongCalls();
+        noSuchOperator();
+        notSoMany();
         end("OperatorsTest");
     }
 
@@ -236,28 +237,50 @@ public final class OperatorsTest extends Bench {
         operator(6, Err.VALUE, row("x"), 1);
     }
 
-    private static void wrongCalls() {
-        ValueAlgebra x = new ValueAlgebra();
-        throwing("operate(0) of none", Thrown.ARGUMENT, x, () -> x.operate(0));
-        x.number(1);
-        for (int number : new int[] {-1, 14, 100, Integer.MAX_VALUE, Integer.MIN_VALUE}) {
-            throwing("operate(" + number + ")", Thrown.ARGUMENT, x, () -> x.operate(number));
-        }
-        for (int number = 2; number <= 13; number++) {
-            int told = number;
-            throwing("operate(" + number + ") of one", Thrown.ARGUMENT, x, () -> x.operate(told));
-        }
-        x.operate(0);
-        check("operate(0) of one", read(x, 0), -1);
-        for (int k = 1; k < 16; k++) {
+    private static Counted numbers(int many) {
+        Counted x = new Counted();
+        for (int k = 1; k <= many; k++) {
             x.number(k);
         }
-        for (int number : new int[] {-1, 14, 15, Integer.MAX_VALUE, Integer.MIN_VALUE}) {
-            throwing("operate(" + number + ") of two", Thrown.ARGUMENT, x, () -> x.operate(number));
+        return x;
+    }
+
+    private static Counted numbersAndLetters(int many) {
+        Counted x = numbers(many);
+        typeAll(x, "ab");
+        return x;
+    }
+
+    private static void noSuchOperator() {
+        sentence("operate: IllegalArgumentException when there is no such operator");
+        for (int number : new int[] {-1, -2, 14, 15, 16, 100, 255, 256, Integer.MAX_VALUE, Integer.MIN_VALUE}) {
+            for (int many : new int[] {0, 1, 2, 16}) {
+                refused("operate(" + number + ") of " + many, Thrown.ARGUMENT,
+                        () -> numbersAndLetters(many), x -> x.operate(number));
+            }
         }
-        x.operate(1);
-        check("operate(1) on a full stack", x.size(), 16);
-        x.operate(5);
-        check("operate(5) on a full stack", x.size(), 15);
+        operator(0, -1, 1);
+        operator(13, true, 1, 1);
+    }
+
+    private static void notSoMany() {
+        sentence("operate: IllegalArgumentException when there are not so many values");
+        for (int number = 0; number <= 13; number++) {
+            int told = number;
+            int takes = number < 2 ? 1 : 2;
+            Counted x = numbers(takes);
+            x.operate(number);
+            check("operate(" + number + ") of so many leaves", x.size(), 1);
+            for (int many = 0; many < takes; many++) {
+                int fewer = many;
+                refused("operate(" + number + ") of " + many, Thrown.ARGUMENT,
+                        () -> numbersAndLetters(fewer), y -> y.operate(told));
+            }
+            Counted full = numbersAndLetters(16);
+            full.operate(number);
+            check("operate(" + number + ") of 16 leaves", full.size(), 17 - takes);
+            check("the text under way", full.type(0), 2);
+            check("the lowest", full.value(16 - takes, 0, 0), 1);
+        }
     }
 }
