@@ -137,6 +137,8 @@ public final class EdgesOfWordingTest extends Bench {
         function(63, "a b", "a b");
         function(63, "a b", "a  b");
         function(63, "a b c", "  a   b    c  ");
+        function(63, "one two three", "one two  three");
+        function(63, "one two three", " one   two three ");
         function(63, "x", times(" ", 254) + "x");
         function(63, "x", "x" + times(" ", 254));
         function(63, "x y", "x" + times(" ", 253) + "y");

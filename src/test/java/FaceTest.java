@@ -9,10 +9,20 @@ import java.util.List;
 /** The public face: what the document shows of it, and nothing beside. */
 public final class FaceTest extends Bench {
     private static final String[] FACE = {
-        "int about(int, int)", "void again(int)", "void array(int, int)", "void call(int, int)",
-        "int cell(int, int, int, int)", "void drop()", "int letter(int, int, int, int)", "void number(double)",
-        "void operate(int)", "void plain(int, int)", "int size()", "void text()", "int type(int)",
-        "double value(int, int, int)"};
+        "int about(int, int) throws IndexOutOfBoundsException, IllegalArgumentException",
+        "void again(int) throws IndexOutOfBoundsException, IllegalStateException",
+        "void array(int, int) throws IllegalArgumentException",
+        "void call(int, int) throws IllegalArgumentException, IllegalStateException",
+        "int cell(int, int, int, int) throws IndexOutOfBoundsException, IllegalArgumentException",
+        "void drop() throws IllegalStateException",
+        "int letter(int, int, int, int) throws IndexOutOfBoundsException",
+        "void number(double) throws IllegalStateException",
+        "void operate(int) throws IllegalArgumentException",
+        "void plain(int, int) throws IllegalArgumentException, IllegalStateException",
+        "int size() throws ",
+        "void text() throws IllegalStateException",
+        "int type(int) throws IllegalArgumentException, IllegalStateException",
+        "double value(int, int, int) throws IndexOutOfBoundsException"};
 
     private FaceTest() {
     }
@@ -30,7 +40,8 @@ public final class FaceTest extends Bench {
         List<String> seen = new ArrayList<>();
         for (Method method : ValueAlgebra.class.getDeclaredMethods()) {
             if (Modifier.isPublic(method.getModifiers())) {
-                seen.add(method.getReturnType() + " " + method.getName() + parameters(method.getParameterTypes()));
+                seen.add(method.getReturnType() + " " + method.getName() + parameters(method.getParameterTypes())
+                        + " throws " + thrown(method.getExceptionTypes()));
             } else {
                 check(method + " is private", Modifier.isPrivate(method.getModifiers()), true);
                 check(method + " has a public one's name", isOfFace(method.getName()), false);
@@ -42,6 +53,14 @@ public final class FaceTest extends Bench {
 
     private static String parameters(Class<?>[] types) {
         return Arrays.toString(types).replace('[', '(').replace(']', ')');
+    }
+
+    private static String thrown(Class<?>[] types) {
+        List<String> names = new ArrayList<>();
+        for (Class<?> type : types) {
+            names.add(type.getSimpleName());
+        }
+        return String.join(", ", names);
     }
 
     private static boolean isOfFace(String name) {
