@@ -17,6 +17,7 @@ public final class EdgesOfDaysTest extends Bench {
         dateDaysBeyond();
         dateMonthsBefore();
         leapYears();
+        everyMonth();
         partsOfFirstDays();
         partsFirstAndLast();
         weekdays();
@@ -165,6 +166,35 @@ public final class EdgesOfDaysTest extends Bench {
             isDate(day + length - 1, 1900, month, length);
             day += length;
         }
+    }
+
+    /** By a count of its own: 1900 has a 29th of February here, and the other years are as they are. */
+    private static void everyMonth() {
+        sentence("YEAR, MONTH, DAY: each month of all years");
+        int[] lengths = {31, 28, 31, 30, 31, 30, 31, 31, 30, 31, 30, 31};
+        int first = 1;
+        for (int year = 1900; year <= 9999; year++) {
+            boolean leap = year == 1900 || year % 4 == 0 && (year % 100 != 0 || year % 400 == 0);
+            for (int month = 1; month <= 12; month++) {
+                int length = lengths[month - 1] + (leap && month == 2 ? 1 : 0);
+                hasParts(first, year, month, 1);
+                hasParts(first + length - 1, year, month, length);
+                first += length;
+            }
+        }
+        check("the day behind the last", first, LAST + 1);
+    }
+
+    private static void hasParts(int day, int year, int month, int ofMonth) {
+        Counted x = new Counted();
+        int[] due = {year, month, ofMonth};
+        for (int part = 0; part < 3; part++) {
+            x.number(day);
+            x.call(82 + part, 1);
+            check("function " + (82 + part) + " of " + day, x.value(0, 0, 0), due[part]);
+        }
+        x.call(81, 3);
+        check("DATE of what they answered", x.value(0, 0, 0), day);
     }
 
     private static void partsOfFirstDays() {

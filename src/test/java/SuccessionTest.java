@@ -10,7 +10,7 @@ public final class SuccessionTest extends Bench {
     /** A function (or an operator, above 1000) and its arguments. */
     private static final Object[][] CALLS = {
         {0, 1, 2}, {0, LINE, 4}, {0, Err.RING}, {0, "x", 1}, {1, 2, 3}, {1, row("x")}, {2, LINE}, {3, LINE}, {3, row("x")},
-        {4, LINE, -7}, {5, LINE}, {6, LINE, "5"}, {7, LINE, Err.NULL}, {8, LINE}, {9, LINE}, {9, row("x")}, {10, LINE, 1},
+        {4, LINE, -7}, {4, row("x")}, {5, LINE}, {5, row("x")}, {2, row("x")}, {6, LINE, "5"}, {7, LINE, Err.NULL}, {8, LINE}, {9, LINE}, {9, row("x")}, {10, LINE, 1},
         {11, LINE, 3}, {11, LINE, 9}, {12, 2, LINE}, {13, LINE}, {14, 5}, {15, LINE, LINE}, {15, LINE, 1}, {16, LINE, ">1"},
         {16, row("ab", "abc", "b"), "a*"}, {16, row("ab", "abc", "b"), "?"}, {16, row("ab", "", BLANK), ""}, {17, LINE, "<3"},
         {18, LINE, "x"}, {18, LINE, Err.NAME}, {22, 2, 10}, {22, 0, 0}, {25, 12, 18}, {26, 4, 6, 10}, {26, -1, 6},
