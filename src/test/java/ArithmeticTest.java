@@ -89,6 +89,11 @@ public final class ArithmeticTest extends Bench {
         function(22, 1, 1, 1023);
         function(22, 1, 1, -1023);
         function(22, -1, -1, 1023);
+        function(22, -1, -1, -1023);
+        function(22, 1, -1, -2);
+        function(22, -1, -1, -1);
+        function(22, -0.125, -2, -3);
+        function(22, 0.0625, -2, -4);
         function(22, Err.NUMBER, 10, 309);
         function(22, Err.NUMBER, 10, 1000);
         function(22, Err.NUMBER, 10, -400);

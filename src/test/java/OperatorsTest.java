@@ -60,6 +60,8 @@ public final class OperatorsTest extends Bench {
         operator(2, 0.125, 2, -3);
         operator(2, 1, 5, 0);
         operator(2, -27, -3, 3);
+        operator(2, -1, -1, -1);
+        operator(2, 0.25, -2, -2);
         operator(2, Err.NUMBER, 0, 0);
         operator(2, Err.DIVISION, 0, -1);
         operator(2, Err.NUMBER, 2, 0.5);
