@@ -18,7 +18,7 @@ public final class SuccessionTest extends Bench {
         {39, true, LINE}, {40, row("x")}, {41, true, true, 1}, {43}, {44}, {50, LINE}, {52, LINE}, {56, "abcdef"}, {57, "abc", 2},
         {57, "abc", -1}, {63, "  one  two "}, {64, "ab", 1, true}, {65, "ab", 3}, {65, "ab", 999}, {66, "abab", "a", "xyz"},
         {66, "abab", "a", "x", 0}, {68, "n", "banana", 4}, {68, "x", "banana"}, {69, "n?n", "banana"}, {69, "a*a", "banana"},
-        {69, "z*", "banana"}, {69, "", "ba"}, {76, TABLE, 2}, {76, TABLE, 3}, {77, "o*", column("two", "one"), 0}, {77, 2, LINE},
+        {69, "z*", "banana"}, {69, "z", "b"}, {69, "z", ""}, {69, "", "ba"}, {76, TABLE, 2}, {76, TABLE, 3}, {77, "o*", column("two", "one"), 0}, {77, 2, LINE},
         {77, 2, LINE, -1}, {78, 2, TABLE, 2}, {78, 2, TABLE, 3}, {79, 1, TABLE, 2, false}, {80, TABLE}, {81, 2000, 2, 30},
         {81, 2000, 99999, 1}, {85, 61, 2}, {86, 31, 1}, {88, 1, 2, 3}, {91, 0.7}, {1000, "5"}, {1000, "x"}, {1005, 1, 2},
         {1004, 1, 0}, {1007, "ab", "cd"}, {1008, BLANK, ""}, {1010, "a", Err.NULL}};
